@@ -9,6 +9,7 @@ public final class OracleTest {
         everyGraph(0, 5);
         sample(20261118L, 900, 7);
         sample(45L, 120, 8);
+        fromStays(9L, 250, 9);
         Due.close();
     }
 
@@ -55,6 +56,36 @@ public final class OracleTest {
                 }
             }
             compare("sample " + seed + "/" + n + " [" + all + "]: ", x, oracle);
+        }
+    }
+
+    /** Meetings of stays drawn by lot, some told wrongly: most can be laid, and the others hardly cannot. */
+    private static void fromStays(long seed, int many, int most) {
+        Random random = new Random(seed);
+        for (int n = 0; n < many; n++) {
+            int guests = 5 + random.nextInt(most - 4);
+            int length = 1 + random.nextInt(6);
+            int[] from = new int[guests];
+            int[] till = new int[guests];
+            Oracle oracle = new Oracle(guests);
+            StringBuilder text = new StringBuilder();
+            for (int b = 0; b < guests; b++) {
+                from[b] = random.nextInt(12);
+                till[b] = from[b] + random.nextInt(length + 1);
+                for (int a = 0; a < b; a++) {
+                    boolean met = from[a] <= till[b] && from[b] <= till[a];
+                    int word = met ? 0 : random.nextInt(9) == 0 ? from[a] < from[b] ? 3 : 2 : 1;
+                    if (word != 1 && random.nextInt(30) != 0) {
+                        text.append(text.length() == 0 ? "" : ";").append(WORDS[word]).append(a).append(' ').append(b);
+                        oracle.remember(word, a, b, -1, 50);
+                    }
+                }
+            }
+            if (Oracle.layings(Oracle.moments(oracle.met()), 3000).size() < 3000) {
+                InnNight x = Due.inn(guests);
+                Due.due("memory()", Due.tell(x, text.toString()), oracle.memories.size());
+                compare("stays " + seed + "/" + n + " [" + text + "]: ", x, oracle);
+            }
         }
     }
 
