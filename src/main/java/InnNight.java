@@ -30,7 +30,7 @@ public final class InnNight {
     private static final int MOST_NODES = 2 * MOST_LAID - 1;
 
     private final Tape tape = new Tape();
-    private final Reader reader = new Reader();
+    private final Reader reader = new Reader(tape);
     private final Book book = new Book();
     private final Book kept = new Book();
     private final Pairs pairs = new Pairs();
@@ -82,7 +82,7 @@ public final class InnNight {
     }
 
     public int memory() throws IllegalArgumentException, UnsupportedOperationException {
-        wrongByte = reader.read(tape, book.guests);
+        wrongByte = reader.read(book.guests);
         tape.size = 0;
         if (wrongByte != NONE) {
             throw new IllegalArgumentException();
@@ -471,7 +471,11 @@ public final class InnNight {
     }
 
     public int list(int guests) throws IllegalArgumentException {
-        boolean isRight = readList(guests);
+        // Most objects never have a LIST, and the rows for it are the longest of all.
+        if (crowd == null) {
+            crowd = new Meetings(MOST_LISTED);
+        }
+        boolean isRight = readList(guests, crowd);
         tape.size = 0;
         if (!isRight) {
             throw new IllegalArgumentException();
@@ -732,7 +736,6 @@ public final class InnNight {
         }
         long met = meetings.met[guest];
         trial.copy(meetings);
-        trial.partFromAll(guest);
         return share(guest, met, allGuests() & ~met | 1L << SECOND_COMING, 0);
     }
 
@@ -764,22 +767,18 @@ public final class InnNight {
         return false;
     }
 
-    private boolean readList(int guests) {
+    private boolean readList(int guests, Meetings told) {
         if (guests < 1 || guests > MOST_LISTED || tape.size % 2 != 0) {
             return false;
         }
-        // Most objects never have a LIST, and the rows for it are the longest of all.
-        if (crowd == null) {
-            crowd = new Meetings(MOST_LISTED);
-        }
-        crowd.clear();
+        told.clear();
         for (int place = 0; place + 1 < tape.size; place += 2) {
             int one = tape.at(place);
             int other = tape.at(place + 1);
             if (one >= guests || other >= guests || one == other) {
                 return false;
             }
-            crowd.join(one, other);
+            told.join(one, other);
         }
         return true;
     }
@@ -920,16 +919,19 @@ public final class InnNight {
         final int[] teller = new int[MOST_MEMORIES];
         final int[] sure = new int[MOST_MEMORIES];
         int lines = 0;
-        private Tape tape = null;
+        private final Tape tape;
         private int guests = 0;
         private int next = 0;
         private int begin = 0;
         private int thing = END;
         private int value = NONE;
 
-        /** The first wrong byte, or NONE. */
-        int read(Tape text, int known) {
+        Reader(Tape text) {
             tape = text;
+        }
+
+        /** The first wrong byte, or NONE. */
+        int read(int known) {
             guests = known;
             next = 0;
             lines = 0;
@@ -1200,12 +1202,6 @@ public final class InnNight {
             }
         }
 
-        void partFromAll(int guest) {
-            for (int other = 0; other < width; other++) {
-                part(guest, other);
-            }
-        }
-
         int pairsMet() {
             int ends = 0;
             for (int guest = 0; guest < width; guest++) {
@@ -1390,7 +1386,6 @@ public final class InnNight {
 
         /** A set is a MOMENT just if all who have met everyone of it, themselves counted, are the set itself. */
         void findMoments(Meetings meetings, int guests) {
-            clearOrders();
             size = 0;
             bothSides[0] = (1 << guests) - 1;
             for (int set = 1; set < 1 << guests && set < CUTS; set++) {
@@ -1404,15 +1399,12 @@ public final class InnNight {
             }
         }
 
+        /** Orders told before are gone with the MOMENTS of before. */
         void takeMoments(Laying other) {
-            clearOrders();
             size = other.size;
             for (int k = 0; k < size && k < MOST_MOMENTS; k++) {
                 moment[k] = other.moment[k];
             }
-        }
-
-        private void clearOrders() {
             for (int k = 0; k < MOST_LAID; k++) {
                 mustPrecede[k] = 0;
             }

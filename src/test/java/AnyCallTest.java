@@ -150,6 +150,10 @@ public final class AnyCallTest {
                 all[at++] = x.pair(a, b);
             }
         }
+        for (int what = 0; what < 3; what++) {
+            all[at++] = x.lies(what);
+            all[at++] = x.leave(what);
+        }
         all[at++] = x.count();
         all[at++] = x.obey();
         return all;

@@ -9,7 +9,8 @@ public final class OracleTest {
         everyGraph(0, 5);
         sample(20261118L, 900, 7);
         sample(45L, 120, 8);
-        fromStays(9L, 250, 9);
+        fromStays(9L, 1500, 9);
+        manyOpen(8L, 150);
         Due.close();
     }
 
@@ -86,6 +87,26 @@ public final class OracleTest {
                 Due.due("memory()", Due.tell(x, text.toString()), oracle.memories.size());
                 compare("stays " + seed + "/" + n + " [" + text + "]: ", x, oracle);
             }
+        }
+    }
+
+    /** So many open pairs that some stand behind the first eight. */
+    private static void manyOpen(long seed, int many) {
+        Random random = new Random(seed);
+        for (int n = 0; n < many; n++) {
+            int guests = 5 + random.nextInt(2);
+            Oracle oracle = new Oracle(guests);
+            StringBuilder text = new StringBuilder();
+            for (int a = 0; a < guests; a++) {
+                for (int b = a + 1; b < guests; b++) {
+                    int word = random.nextInt(3) == 0 ? 0 : random.nextInt(8) == 0 ? 3 : 2;
+                    text.append(text.length() == 0 ? "" : ";").append(WORDS[word]).append(a).append(' ').append(b);
+                    oracle.remember(word, a, b, -1, 50);
+                }
+            }
+            InnNight x = Due.inn(guests);
+            Due.due("memory()", Due.tell(x, text.toString()), oracle.memories.size());
+            compare("many open " + seed + "/" + n + " [" + text + "]: ", x, oracle);
         }
     }
 

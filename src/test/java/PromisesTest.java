@@ -32,6 +32,7 @@ public final class PromisesTest {
         promises28and29();
         promise30();
         promise31();
+        changes();
         promises32to35();
         promises36and37();
         promises38to40();
@@ -285,6 +286,19 @@ public final class PromisesTest {
         nodeIs(x, 4, 0, 4, 1, 0);
         nodeIs(x, 5, 0, 8, 0, 0);
         Due.due("nodes", x.sum(6), 6);
+        // THE LEAST begins at the end of the single moment 2, but the part at the other end has moment 0.
+        InnNight turned = Due.inn(7, "met 0 1;met 0 2;met 1 2;met 2 3;met 3 4;met 0 5;met 2 5;met 1 6;met 2 6");
+        int[] least = {2, 1, 3, 0, 4};
+        for (int place = 0; place < 5; place++) {
+            Due.due("the least " + place, turned.lay(place), least[place]);
+        }
+        nodeIs(turned, 0, 2, 31, -1, 3);
+        nodeIs(turned, 1, 2, 25, 0, 3);
+        nodeIs(turned, 2, 0, 8, 1, 0);
+        nodeIs(turned, 3, 0, 1, 1, 0);
+        nodeIs(turned, 4, 0, 16, 1, 0);
+        nodeIs(turned, 5, 0, 2, 0, 0);
+        nodeIs(turned, 6, 0, 4, 0, 0);
         InnNight one = Due.inn(3, "met 0 1;met 1 2;met 0 2");
         nodeIs(one, 0, 0, 1, -1, 0);
         nodeIs(new InnNight(), 0, -1, -1, -1, -1);
@@ -345,6 +359,7 @@ public final class PromisesTest {
         Due.due("what leaves none leaves fewer", Due.inn(5, RING + ";open 0 2;open 0 4").ask(), 1);
         // Now there are 4: the first pair told MET leaves 6, the second one 2.
         Due.due("where it leaves more", Due.inn(4, "met 0 1;met 0 2;open 1 3;open 3 0").ask(), 1);
+        Due.due("many to ask", Due.inn(5, openAll(5)).ask(), 0);
         // Now there are 6: told MET they leave 4 and 2, but told APART 6, both of them.
         Due.due("where it leaves more is APART", Due.inn(4, "met 0 1;open 0 2;open 2 3").ask(), 0);
     }
@@ -372,6 +387,14 @@ public final class PromisesTest {
         Due.due("apart though ahead is wrong", x.judge(1), 0);
         x.stay(3, 50, 60);
         Due.due("of those told alone", x.judge(0), 0);
+        InnNight hours = Due.inn(2, "met 1 0");
+        hours.stay(0, 8, 8);
+        hours.stay(1, 8, 8);
+        Due.due("one hour of both", hours.judge(0), 0);
+        hours.stay(1, 0, 7);
+        Due.due("gone by then", hours.judge(0), 1);
+        hours.stay(0, 7, 9);
+        Due.due("the last hour of the other one", hours.judge(0), 0);
         Due.refuses("stay(5)", NO_SUCH, () -> stay(x, 5, 9, 1));
         Due.refuses("stay(-1)", NO_SUCH, () -> stay(x, -1, 0, 1));
         Due.refuses("stay from behind till", IllegalArgumentException.class, () -> stay(x, 0, 9, 8));
@@ -426,6 +449,35 @@ public final class PromisesTest {
         fewest("leave of a ring and one more", x, false, 1, 1, 4);
         Due.refuses("leave(3)", NO_WHAT, () -> x.leave(3));
         Due.refuses("leave(-1)", NO_WHAT, () -> x.leave(-1));
+    }
+
+    /** What was asked once is asked again behind each kind of change. */
+    private static void changes() {
+        InnNight x = Due.inn(4, RING);
+        fewest("lies", x, true, 1, 1, 4);
+        fewest("leave", x, false, 1, 1, 4);
+        x.image();
+        x.strike(2, true);
+        fewest("lies of one struck", x, true, 0, 0, 1);
+        fewest("leave of one struck", x, false, 0, 0, 1);
+        Due.due("can", x.can(), true);
+        Due.due("nodes", x.sum(6), 4);
+        Due.due("obey", x.obey(), 2);
+        x.back();
+        fewest("lies again", x, true, 1, 1, 4);
+        fewest("leave again", x, false, 1, 1, 4);
+        Due.due("can again", x.can(), false);
+        Due.due("nodes again", x.sum(6), 0);
+        Due.due("obey again", x.obey(), 0);
+        Due.tell(x, "met 0 2");
+        fewest("lies with a chord", x, true, 0, 0, 1);
+        fewest("leave with a chord", x, false, 0, 0, 1);
+        Due.due("nodes with a chord", x.sum(6), 3);
+        Due.due("obey with a chord", x.obey(), 2);
+        x.guest();
+        Due.due("moments of one more", x.moments(), 3);
+        Due.due("nodes of one more", x.sum(6), 5);
+        Due.due("obey of one more", x.obey(), 4);
     }
 
     private static void promises32to35() {
@@ -564,6 +616,7 @@ public final class PromisesTest {
         Due.due("nothing happens", x.sum(1), 2);
         x.stay(0, 1, 2);
         x.stay(1, 3, 4);
+        Due.due("leave ahead of the image", x.leave(1), 0);
         Due.list(x, 3, 0, 1);
         x.strike(1, true);
         x.image();
@@ -571,7 +624,8 @@ public final class PromisesTest {
         Due.tell(x, "met 2 3;apart 0 1");
         x.strike(0, true);
         x.strike(1, false);
-        x.stay(1, 2, 4);
+        x.stay(0, 0, 9);
+        x.stay(1, 9, 9);
         x.stay(2, 0, 99);
         Due.list(x, 4, 0, 1, 1, 2, 2, 3, 3, 0);
         Due.tape(x, "m");

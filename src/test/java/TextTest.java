@@ -53,6 +53,12 @@ public final class TextTest {
         wrong(2, "met 0 1;;met 0 1", 8);
         wrong(2, "me", 0);
         wrong(2, "metx 0 1", 0);
+        wrong(2, "metz 0 1", 0);
+        wrong(2, "ameta 0 1", 0);
+        wrong(2, "met{0 1", 3);
+        wrong(2, "met`0 1", 3);
+        wrong(2, "met/0 1", 3);
+        wrong(2, "met:0 1", 3);
         wrong(2, "met", 3);
         wrong(2, "met  ", 5);
         wrong(2, "met ;", 4);
