@@ -299,6 +299,18 @@ public final class PromisesTest {
         nodeIs(turned, 4, 0, 16, 1, 0);
         nodeIs(turned, 5, 0, 2, 0, 0);
         nodeIs(turned, 6, 0, 4, 0, 0);
+        // THE LEAST has the one alone first, then the row with moment 1, then the row with moment 0.
+        InnNight rows = Due.inn(9, "met 0 1;met 2 3;met 2 5;met 3 6;met 0 7;met 1 8");
+        int[] begins = {2, 3, 1, 4, 5, 0, 6};
+        for (int place = 0; place < 7; place++) {
+            Due.due("the least of two rows " + place, rows.lay(place), begins[place]);
+        }
+        int[][] nodes = {{1, 127, -1, 3}, {2, 97, 0, 3}, {0, 32, 1, 0}, {0, 1, 1, 0}, {0, 64, 1, 0}, {2, 26, 0, 3},
+            {0, 8, 5, 0}, {0, 2, 5, 0}, {0, 16, 5, 0}, {0, 4, 0, 0}};
+        for (int k = 0; k < nodes.length; k++) {
+            nodeIs(rows, k, nodes[k][0], nodes[k][1], nodes[k][2], nodes[k][3]);
+        }
+        Due.due("nodes of two rows", rows.sum(6), 10);
         InnNight one = Due.inn(3, "met 0 1;met 1 2;met 0 2");
         nodeIs(one, 0, 0, 1, -1, 0);
         nodeIs(new InnNight(), 0, -1, -1, -1, -1);
@@ -614,8 +626,8 @@ public final class PromisesTest {
         InnNight x = Due.inn(3, "met 0 1;met 1 2");
         Due.due("back without an image", x.back(), false);
         Due.due("nothing happens", x.sum(1), 2);
-        x.stay(0, 1, 2);
-        x.stay(1, 3, 4);
+        x.stay(0, 5, 6);
+        x.stay(1, 6, 7);
         Due.due("leave ahead of the image", x.leave(1), 0);
         Due.list(x, 3, 0, 1);
         x.strike(1, true);
@@ -624,8 +636,8 @@ public final class PromisesTest {
         Due.tell(x, "met 2 3;apart 0 1");
         x.strike(0, true);
         x.strike(1, false);
-        x.stay(0, 0, 9);
-        x.stay(1, 9, 9);
+        x.stay(0, 0, 1);
+        x.stay(1, 8, 9);
         x.stay(2, 0, 99);
         Due.list(x, 4, 0, 1, 1, 2, 2, 3, 3, 0);
         Due.tape(x, "m");
@@ -637,7 +649,7 @@ public final class PromisesTest {
         Due.due("in force", x.sum(2), 1);
         Due.due("pair 0 1", x.pair(0, 1), 0);
         Due.due("pair 1 2", x.pair(1, 2), 1);
-        Due.due("judge", x.judge(0), 1);
+        Due.due("judge", x.judge(0), 0);
         Due.due("judge of one told later", x.judge(1), 0);
         listIs(x, 1, 1, 2, 1, 3);
         Due.due("not the fault", x.fault(), 0);
