@@ -1109,21 +1109,21 @@ public final class InnNight {
             }
             for (int memory = 0; memory < book.memories; memory++) {
                 if ((inForce >> memory & 1) != 0) {
-                    int place = placeOf(book.first[memory], book.second[memory]);
-                    int before = ruler[place];
+                    int before = rulerOf(book.first[memory], book.second[memory]);
                     if (before == NONE || book.sure[memory] >= book.sure[before]) {
-                        ruler[place] = memory;
+                        ruler[MOST_GUESTS * book.first[memory] + book.second[memory]] = memory;
+                        ruler[MOST_GUESTS * book.second[memory] + book.first[memory]] = memory;
                     }
                 }
             }
         }
 
         int rulerOf(int a, int b) {
-            return ruler[placeOf(a, b)];
+            return ruler[MOST_GUESTS * a + b];
         }
 
         int stateOf(Book book, int a, int b) {
-            int memory = rulerOf(a, b);
+            int memory = ruler[MOST_GUESTS * a + b];
             if (memory == NONE || book.word[memory] == AHEAD) {
                 return APART;
             }
@@ -1154,10 +1154,6 @@ public final class InnNight {
                     }
                 }
             }
-        }
-
-        private static int placeOf(int a, int b) {
-            return MOST_GUESTS * Math.min(a, b) + Math.max(a, b);
         }
     }
 
