@@ -736,11 +736,11 @@ public final class InnNight {
         }
         long met = meetings.met[guest];
         trial.copy(meetings);
-        return share(guest, met, allGuests() & ~met | 1L << SECOND_COMING, 0);
+        return canShare(trial, guest, met, allGuests() & ~met | 1L << SECOND_COMING, 0);
     }
 
     /** Some of the GUESTS who cannot be laid are never laid by more who come, so each gift is tried at once. */
-    private boolean share(int guest, long left, long among, int depth) {
+    private static boolean canShare(Meetings comings, int guest, long left, long among, int depth) {
         if (left == 0L) {
             return true;
         }
@@ -752,17 +752,17 @@ public final class InnNight {
         int gifts = depth == 0 ? 2 : 3;
         for (int gift = 0; gift < gifts; gift++) {
             if (gift != 2) {
-                trial.join(guest, other);
+                comings.join(guest, other);
             }
             if (gift != 0) {
-                trial.join(SECOND_COMING, other);
+                comings.join(SECOND_COMING, other);
             }
             long more = among | 1L << other;
-            if (trial.isLayable(more) && share(guest, left & left - 1L, more, depth + 1)) {
+            if (comings.isLayable(more) && canShare(comings, guest, left & left - 1L, more, depth + 1)) {
                 return true;
             }
-            trial.part(guest, other);
-            trial.part(SECOND_COMING, other);
+            comings.part(guest, other);
+            comings.part(SECOND_COMING, other);
         }
         return false;
     }

@@ -1,9 +1,22 @@
+import java.io.IOException;
+import java.nio.charset.StandardCharsets;
+import java.nio.file.Files;
+import java.nio.file.Path;
+import java.util.NoSuchElementException;
 import java.util.function.LongSupplier;
 
 /** What the tests share: answers compared with those that are due, and texts put on the TAPE. */
 final class Due {
+    static final Class<IndexOutOfBoundsException> NO_SUCH = IndexOutOfBoundsException.class;
+    static final Class<IllegalStateException> NOT_LAID = IllegalStateException.class;
+    static final Class<IllegalArgumentException> WRONG = IllegalArgumentException.class;
+    static final Class<UnsupportedOperationException> TOO_MANY = UnsupportedOperationException.class;
+    static final Class<NoSuchElementException> NO_WHAT = NoSuchElementException.class;
+
+    private static final String DOCUMENT = document();
     private static int wrong = 0;
     private static int asked = 0;
+    private static String sentence = "";
 
     private Due() {
     }
@@ -12,7 +25,7 @@ final class Due {
         asked++;
         if (got != want) {
             wrong++;
-            System.out.println(call + " answered " + got + ", due is " + want);
+            System.out.println(sentence + call + " answered " + got + ", due is " + want);
         }
     }
 
@@ -32,7 +45,31 @@ final class Due {
             }
         }
         wrong++;
-        System.out.println(call + " " + got + ", due is " + want.getSimpleName());
+        System.out.println(sentence + call + " " + got + ", due is " + want.getSimpleName());
+    }
+
+    /** The answers behind this are due by these words, which the document has, if the tests were told where it is. */
+    static void says(String words) {
+        sentence = "\"" + words + "\": ";
+        asked++;
+        if (!DOCUMENT.isEmpty() && !DOCUMENT.contains(words)) {
+            wrong++;
+            System.out.println(sentence + "the document has no such words");
+        }
+    }
+
+    private static String document() {
+        String place = System.getProperty("document", "");
+        if (place.isEmpty()) {
+            return "";
+        }
+        try {
+            String text = new String(Files.readAllBytes(Path.of(place)), StandardCharsets.UTF_8);
+            return text.replaceAll("\\s+", " ");
+        } catch (IOException unread) {
+            System.out.println("no document at " + place + ": whether it has the words is not looked at");
+            return "";
+        }
     }
 
     static InnNight inn(int guests) {

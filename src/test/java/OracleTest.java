@@ -11,6 +11,7 @@ public final class OracleTest {
         sample(45L, 120, 8);
         fromStays(9L, 1500, 9);
         manyOpen(8L, 150);
+        comingsOfTwo(35L, 150);
         Due.close();
     }
 
@@ -108,6 +109,42 @@ public final class OracleTest {
             Due.due("memory()", Due.tell(x, text.toString()), oracle.memories.size());
             compare("many open " + seed + "/" + n + " [" + text + "]: ", x, oracle);
         }
+    }
+
+    /** Meetings of stays by lot, of which one guest had two: who can have come twice so. */
+    private static void comingsOfTwo(long seed, int many) {
+        Random random = new Random(seed);
+        int neither = 0;
+        for (int n = 0; neither < many && n < 100 * many; n++) {
+            int guests = 6 + random.nextInt(3);
+            int[] from = new int[guests + 1];
+            int[] till = new int[guests + 1];
+            for (int k = 0; k <= guests; k++) {
+                from[k] = random.nextInt(16);
+                till[k] = from[k] + random.nextInt(1 + random.nextInt(8));
+            }
+            Oracle oracle = new Oracle(guests);
+            StringBuilder text = new StringBuilder();
+            for (int a = 0; a < guests; a++) {
+                for (int b = a + 1; b < guests; b++) {
+                    boolean met = from[a] <= till[b] && from[b] <= till[a];
+                    // Guest 0 came a second time.
+                    met |= a == 0 && from[guests] <= till[b] && from[b] <= till[guests];
+                    if (met != (random.nextInt(40) == 0)) {
+                        text.append(text.length() == 0 ? "" : ";").append("met").append(a).append(' ').append(b);
+                        oracle.remember(0, a, b, -1, 50);
+                    }
+                }
+            }
+            boolean[][] met = oracle.met();
+            if (!Oracle.can(met)) {
+                neither++;
+                InnNight x = Due.inn(guests);
+                Due.tell(x, text.toString());
+                compareKinds("two comings " + seed + "/" + n + " [" + text + "]: ", x, met);
+            }
+        }
+        Due.due("inns that cannot be laid", neither, many);
     }
 
     private static String tellOne(Random random, int guests, int metShare, Oracle oracle) {
