@@ -313,6 +313,17 @@ public final class LayingBoundsTest {
             nodeIs(x, k, nodes[k][0], nodes[k][1], nodes[k][2], nodes[k][3]);
         }
         Due.due("nodes", x.sum(6), 8);
+        // THE LEAST has the one alone (moment 2) first, then the rows with moments 0 and 1 in their middles.
+        InnNight rows = Due.inn(9, "met 0 1;met 2 3;met 0 5;met 1 6;met 2 7;met 3 8");
+        int[] least = {2, 3, 0, 4, 5, 1, 6};
+        for (int place = 0; place < least.length; place++) {
+            Due.due("the least " + place, rows.lay(place), least[place]);
+        }
+        int[][] inRows = {{1, 127, -1, 3}, {2, 25, 0, 3}, {0, 8, 1, 0}, {0, 1, 1, 0}, {0, 16, 1, 0}, {2, 98, 0, 3},
+            {0, 32, 5, 0}, {0, 2, 5, 0}, {0, 64, 5, 0}, {0, 4, 0, 0}};
+        for (int k = 0; k < inRows.length; k++) {
+            nodeIs(rows, k, inRows[k][0], inRows[k][1], inRows[k][2], inRows[k][3]);
+        }
         // Moments 5, 10, 17, 34, 64: 0 stands with 2, and 1 with 3, though 1 stands between them by number.
         InnNight mixed = Due.inn(7, "met 0 2;met 1 3;met 0 4;met 1 5");
         int[][] others = {{1, 31, -1, 3}, {1, 5, 0, 2}, {0, 1, 1, 0}, {0, 4, 1, 0}, {1, 10, 0, 2}, {0, 2, 4, 0},
@@ -336,6 +347,18 @@ public final class LayingBoundsTest {
         InnNight first = Due.inn(6, "met 0 1;met 0 2;met 0 3;met 3 4;met 4 5");
         int[][] firstNodes = {{2, 31, -1, 4}, {1, 3, 0, 2}, {0, 1, 1, 0}, {0, 2, 1, 0}, {0, 4, 0, 0}, {0, 8, 0, 0},
             {0, 16, 0, 0}};
+        // THE LEAST begins with moment 1, but the row within the part at the other end has moment 0 in its middle.
+        InnNight turned =
+                Due.inn(8, "met 0 1;met 0 2;met 1 2;met 3 4;met 3 5;met 2 5;met 2 6;met 0 6;met 2 7;met 1 7");
+        int[] least = {1, 3, 2, 4, 0, 5};
+        for (int place = 0; place < least.length; place++) {
+            Due.due("the least " + place, turned.lay(place), least[place]);
+        }
+        int[][] turnedNodes = {{2, 63, -1, 4}, {2, 49, 0, 3}, {0, 16, 1, 0}, {0, 1, 1, 0}, {0, 32, 1, 0}, {0, 4, 0, 0},
+            {0, 8, 0, 0}, {0, 2, 0, 0}};
+        for (int k = 0; k < turnedNodes.length; k++) {
+            nodeIs(turned, k, turnedNodes[k][0], turnedNodes[k][1], turnedNodes[k][2], turnedNodes[k][3]);
+        }
         for (int k = 0; k < 7; k++) {
             nodeIs(last, k, lastNodes[k][0], lastNodes[k][1], lastNodes[k][2], lastNodes[k][3]);
             nodeIs(first, k, firstNodes[k][0], firstNodes[k][1], firstNodes[k][2], firstNodes[k][3]);

@@ -9,6 +9,8 @@ public final class ListTest {
         longRings();
         ringOfTwoHalves();
         treesOfSixty();
+        staysByLot();
+        walksByLot();
         Due.close();
     }
 
@@ -131,5 +133,139 @@ public final class ListTest {
         }
         Due.due("a comb of single teeth", Due.list(x, 60, bytes), 59);
         listIs("a comb of single teeth", x, 1, 1, 2);
+    }
+
+    private static int[] bytesOf(boolean[][] met, int guests) {
+        int[] bytes = new int[guests * guests];
+        int at = 0;
+        for (int a = 0; a < guests; a++) {
+            for (int b = a + 1; b < guests; b++) {
+                if (met[a][b]) {
+                    bytes[at++] = (a + b) % 2 == 0 ? a : b;
+                    bytes[at++] = (a + b) % 2 == 0 ? b : a;
+                }
+            }
+        }
+        return java.util.Arrays.copyOf(bytes, at);
+    }
+
+    /** Stays by lot can always be laid, and the greatest moment is that hour at which most are there. */
+    private static void staysByLot() {
+        Random random = new Random(60L);
+        for (int n = 0; n < 300; n++) {
+            int guests = 1 + random.nextInt(60);
+            int[] from = new int[guests];
+            int[] till = new int[guests];
+            int[] there = new int[200];
+            int greatest = 0;
+            for (int k = 0; k < guests; k++) {
+                from[k] = random.nextInt(150);
+                till[k] = from[k] + random.nextInt(1 + random.nextInt(20));
+                for (int hour = from[k]; hour <= till[k]; hour++) {
+                    there[hour]++;
+                    greatest = Math.max(greatest, there[hour]);
+                }
+            }
+            boolean[][] met = new boolean[guests][guests];
+            for (int a = 0; a < guests; a++) {
+                for (int b = 0; b < guests; b++) {
+                    met[a][b] = a != b && from[a] <= till[b] && from[b] <= till[a];
+                }
+            }
+            int[] bytes = bytesOf(met, guests);
+            if (bytes.length <= 400) {
+                InnNight x = new InnNight();
+                Due.due("stays by lot " + n, Due.list(x, guests, bytes), bytes.length / 2);
+                listIs("stays by lot " + n, x, 1, 1, greatest);
+            }
+        }
+    }
+
+    /** Walks about a tree, by lot: whoever were at one place have met, so that there is no ring. */
+    private static void walksByLot() {
+        Random random = new Random(61L);
+        int laid = 0;
+        int notLaid = 0;
+        for (int n = 0; n < 400; n++) {
+            int guests = 6 + random.nextInt(55);
+            int places = 4 + random.nextInt(50);
+            int[] above = new int[places];
+            for (int place = 1; place < places; place++) {
+                above[place] = Math.max(0, place - 1 - random.nextInt(1 + n % 4));
+            }
+            boolean[][] at = new boolean[guests][places];
+            int[] there = new int[places];
+            int greatest = 0;
+            for (int k = 0; k < guests; k++) {
+                int place = random.nextInt(places);
+                at[k][place] = true;
+                for (int step = random.nextInt(6); step > 0; step--) {
+                    place = above[place];
+                    at[k][place] = true;
+                }
+                for (int one = 0; one < places; one++) {
+                    there[one] += at[k][one] ? 1 : 0;
+                    greatest = Math.max(greatest, there[one]);
+                }
+            }
+            boolean[][] met = new boolean[guests][guests];
+            for (int a = 0; a < guests; a++) {
+                for (int b = 0; b < guests; b++) {
+                    for (int place = 0; place < places; place++) {
+                        met[a][b] |= a != b && at[a][place] && at[b][place];
+                    }
+                }
+            }
+            int[] bytes = bytesOf(met, guests);
+            if (bytes.length <= 400) {
+                boolean can = !hasThree(met);
+                laid += can ? 1 : 0;
+                notLaid += can ? 0 : 1;
+                InnNight x = new InnNight();
+                Due.due("walks by lot " + n, Due.list(x, guests, bytes), bytes.length / 2);
+                listIs("walks by lot " + n, x, can ? 1 : 0, 1, greatest);
+            }
+        }
+        Due.due("walks that are stays, and others: " + laid + " and " + notLaid, laid > 20 && notLaid > 20, true);
+    }
+
+    private static boolean hasThree(boolean[][] met) {
+        int guests = met.length;
+        int[][] part = new int[guests][];
+        for (int without = 0; without < guests; without++) {
+            part[without] = partsWithout(met, without);
+        }
+        for (int a = 0; a < guests; a++) {
+            for (int b = a + 1; b < guests; b++) {
+                for (int c = b + 1; c < guests; c++) {
+                    if (part[a][b] > 0 && part[a][b] == part[a][c] && part[b][a] > 0 && part[b][a] == part[b][c]
+                            && part[c][a] > 0 && part[c][a] == part[c][b]) {
+                        return true;
+                    }
+                }
+            }
+        }
+        return false;
+    }
+
+    /** Guests whom ways join that have not one, nor any whom that has met, are given one number; these 0. */
+    private static int[] partsWithout(boolean[][] met, int one) {
+        int guests = met.length;
+        int[] part = new int[guests];
+        for (int k = 0; k < guests; k++) {
+            part[k] = k == one || met[one][k] ? 0 : k + 1;
+        }
+        for (boolean again = true; again;) {
+            again = false;
+            for (int a = 0; a < guests; a++) {
+                for (int b = 0; b < guests; b++) {
+                    if (met[a][b] && part[a] > 0 && part[b] > part[a]) {
+                        part[b] = part[a];
+                        again = true;
+                    }
+                }
+            }
+        }
+        return part;
     }
 }
