@@ -501,6 +501,12 @@ public final class ChoosingBoundsTest {
             Due.due("the least in a row " + guest, row.span(guest, false), least[guest]);
             Due.due("the greatest in a row " + guest, row.span(guest, true), greatest[guest]);
         }
+        // Five MOMENTS became four: what was worked out of the fifth one may not show.
+        InnNight shorter = Due.inn(5);
+        Due.due("all of five apart", shorter.obey(), 120);
+        Due.tell(shorter, PATH + ";ahead 0 2");
+        Due.due("the least of the last in a row", shorter.span(4, false), 3);
+        Due.due("the greatest of the first in a row", shorter.span(0, true), 0);
         Due.due("none of a ring", Due.inn(4, RING).span(0, true), -1);
         Due.due("none obeys, the least", Due.inn(3, "ahead 0 1;ahead 1 2;ahead 2 0").span(0, false), -1);
         Due.due("none obeys, the greatest", Due.inn(3, "ahead 0 1;ahead 1 2;ahead 2 0").span(0, true), -1);
