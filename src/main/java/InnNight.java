@@ -1248,7 +1248,7 @@ public final class InnNight {
             return best;
         }
 
-        /** Whether the one taken last has met all the others is enough: of those it was asked before. */
+        /** Only the one taken last is asked: whom of them it has met was looked at when it was taken itself. */
         private boolean haveMet(long those, int taken) {
             for (int step = taken - 1; step >= 0; step--) {
                 int guest = order[step];

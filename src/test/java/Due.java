@@ -72,6 +72,15 @@ final class Due {
         }
     }
 
+    /** The project's folder, if the tests were told where it is; else the one in which they run. */
+    static String project() {
+        return System.getProperty("project", ".");
+    }
+
+    static String fileOfProject(String name) throws IOException {
+        return new String(Files.readAllBytes(Path.of(project(), name)), StandardCharsets.UTF_8);
+    }
+
     static InnNight inn(int guests) {
         InnNight x = new InnNight();
         for (int guest = 0; guest < guests; guest++) {
